@@ -111,7 +111,14 @@ public final class PromisesTest {
         due("5: gone", x.fault(0), 0);
         due("4: blanks alone", Check.race(x, " \n "), 0);
         due("4: there is none", x.wins(), -2);
-        due("4: steps", x.count(0), 0);
+        for (int what = 0; what <= 9; what++) {
+            due("4: there is none, count " + what, x.count(what), 0);
+        }
+        Check.race(x, PLAIN.replace("law 0", "law 3"));
+        due("4: nothing told", x.race(), 0);
+        for (int what = 0; what <= 9; what++) {
+            due("4: nothing told, count " + what, x.count(what), 0);
+        }
         due("4: close together", Check.race(x, "race\nsteps1law0goal1odds0;boat at0needs1;watcher eyes1sees0to0on0;"
                 + "show1at0;"), 4);
         due("4: zeros ahead", Check.race(x, "race steps 0020 law 03 goal 060 odds 00000000000010;"), 1);
@@ -145,6 +152,8 @@ public final class PromisesTest {
         fault("race  ", 1, 6);
         fault("races steps 4", 1, 0);
         fault("Race steps 4", 1, 0);
+        fault("racez steps 4", 1, 0);
+        fault("racea steps 4", 1, 0);
         fault("race\tsteps 4", 1, 4);
         fault("race steps four", 1, 11);
         fault("race steps 0 law 0", 2, 11);
@@ -252,7 +261,8 @@ public final class PromisesTest {
         due("28: fleet", x.fleet(0), 1);
         due("28: fleet", x.fleet(4), 12);
         due("28: no such", x.fleet(5), -2);
-        PennantLawn y = Check.lawn("race steps 2 law 0 goal 60 odds 0; boat at 0 needs 1; watcher eyes 9 sees 0 to 0 on 0;"
+        PennantLawn y = Check.lawn("race steps 2 law 0 goal 60 odds 0; boat at 0 needs 1; "
+                + "watcher eyes 9 sees 0 to 0 on 0;"
                 + "watcher eyes 9 sees 0 to 0 on 0;");
         row("9: three at most", placesOf(y, 0), 0, 3, 6);
         due("11: EYES together", y.eyes(0, 1), 18);
@@ -314,7 +324,8 @@ public final class PromisesTest {
         due("18: no such", x.calm(3), -2);
         due("19: drops", x.drops(), 0);
         due("37: calmest", x.calmest(), 2);
-        PennantLawn y = Check.lawn("race steps 3 law 0 goal 6 odds 0; boat at 0 needs 1; watcher eyes 1 sees 0 to 0 on 0;"
+        PennantLawn y = Check.lawn("race steps 3 law 0 goal 6 odds 0; boat at 0 needs 1; "
+                + "watcher eyes 1 sees 0 to 0 on 0;"
                 + "show 1 at 2;");
         due("19: the first STEP", y.drops(), 2);
         due("18: calm", y.calm(0), 4);
@@ -459,7 +470,8 @@ public final class PromisesTest {
         due("41: by none", y.start(0), -1);
         due("39: none WINS", y.key(), -1);
         due("42: none", y.by(2), -1);
-        PennantLawn z = Check.lawn("race steps 1 law 0 goal 3 odds 0; boat at 3 needs 1; watcher eyes 1 sees 0 to 0 on 0;"
+        PennantLawn z = Check.lawn("race steps 1 law 0 goal 3 odds 0; boat at 3 needs 1; "
+                + "watcher eyes 1 sees 0 to 0 on 0;"
                 + "show 1 at 0;");
         due("40: by none", z.handicap(0), -1);
         due("39: none", z.key(), -1);
@@ -501,6 +513,9 @@ public final class PromisesTest {
         PennantLawn most = Check.lawn(mostLooks());
         due("43: all LOOKS", most.ways(0), 3125);
         due("46: at once", most.soonest(0), 0);
+        most.row(0, 0, 0);
+        due("53: all LOOKS", most.fits(0), 3125);
+        due("56: all LOOKS", most.leaves(0), 625);
     }
 
     private static String mostLooks() {
@@ -609,7 +624,8 @@ public final class PromisesTest {
         due("58: no such", x.share(3, 0, 0), -2);
         due("58: no such what", x.share(0, 0, 2), -2);
         // Alone 2 go one farther, all three go two: worth 0 1 1 1, one of two: 1, all: 2.
-        PennantLawn y = Check.lawn("race steps 1 law 0 goal 9 odds 0; boat at 0 needs 2; watcher eyes 2 sees 0 to 0 on 0;"
+        PennantLawn y = Check.lawn("race steps 1 law 0 goal 9 odds 0; boat at 0 needs 2; "
+                + "watcher eyes 2 sees 0 to 0 on 0;"
                 + "watcher eyes 1 sees 0 to 0 on 0; watcher eyes 1 sees 0 to 0 on 0;");
         due("58: in lowest terms", y.share(0, 0, 0), 1);
         due("58: in lowest terms", y.share(0, 0, 1), 1);
@@ -791,6 +807,14 @@ public final class PromisesTest {
         due("72: acts again", x.count(7), 1);
         due("72: needs", x.boat(0, 1), 2);
         due("72: LINES", x.count(8), 8);
+        x.anew();
+        x.sneeze(2, 3);
+        x.look(0, 2, 0);
+        due("72: back behind other acts", x.back(0), 0);
+        row("72: acts of the IMAGE", looksOf(x, 1), 1, 0, 0, 0, 0);
+        row("72: acts of the IMAGE", looksOf(x, 0), 0, 0, 0, 0, 0);
+        due("72: acts of the IMAGE", x.awake(3), 7);
+        due("72: acts of the IMAGE", x.undo(), 0);
         PennantLawn y = new PennantLawn();
         due("71: of none", y.image(1), 0);
         Check.race(y, PLAIN);
@@ -820,6 +844,10 @@ public final class PromisesTest {
         due("74: nothing", x.write(1, 0, 1), -6);
         due("73: below 0", x.row(0, 0, -1), -3);
         due("73: stays", x.fits(0), 6);
+        x.row(0, 0, 3);
+        x.write(0, 0, 77);
+        due("73: row", x.row(0, 1, 3), 0);
+        due("73: all 0 again", x.fits(0), 6);
         widths(x);
         pastes(x);
     }
