@@ -19,6 +19,7 @@ public final class PromisesTest {
         tape();
         readRaces();
         faults();
+        cutOff();
         told();
         places();
         looksAndEyes();
@@ -191,6 +192,20 @@ public final class PromisesTest {
         String show = "show 9 at 19;";
         fault(race + show.repeat(5) + "\nshow 9 at 19;@", 3, 99);
         fault(race + show.repeat(5) + "@show 9 at 19;", 1, 98);
+    }
+
+    /** What end() cut off the TAPE is not read, though it was fed. */
+    private static void cutOff() {
+        PennantLawn x = new PennantLawn();
+        String[] texts = {"race steps 12", "race steps 4 lawn", "race  "};
+        int[] cuts = {12, 16, 5};
+        for (int i = 0; i < texts.length; i++) {
+            Check.tell(x, texts[i]);
+            due("3: cut", x.end(cuts[i]), cuts[i]);
+            due("3: cut", x.race(), -4);
+            due("3: cut off", x.fault(0), 1);
+            due("3: the end's place", x.fault(1), cuts[i]);
+        }
     }
 
     private static void told() {
