@@ -65,8 +65,8 @@ public final class WildTest {
     }
 
     private static String full(Random random) {
-        StringBuilder text = new StringBuilder("race steps " + (random.nextBoolean() ? 20 : 1 + random.nextInt(6)) + " law "
-                + random.nextInt(4) + " goal " + (1 + random.nextInt(60)) + " odds " + random.nextInt(11) + ";");
+        int steps = random.nextBoolean() ? 20 : 1 + random.nextInt(6);
+        StringBuilder text = new StringBuilder("race steps " + steps + " law " + random.nextInt(4) + " goal " + (1 + random.nextInt(60)) + " odds " + random.nextInt(11) + ";");
         for (int i = 0; i < 5; i++) {
             text.append("boat at " + random.nextInt(31) + " needs " + (1 + random.nextInt(9)) + ";");
         }
