@@ -66,7 +66,8 @@ public final class WildTest {
 
     private static String full(Random random) {
         int steps = random.nextBoolean() ? 20 : 1 + random.nextInt(6);
-        StringBuilder text = new StringBuilder("race steps " + steps + " law " + random.nextInt(4) + " goal " + (1 + random.nextInt(60)) + " odds " + random.nextInt(11) + ";");
+        StringBuilder text = new StringBuilder("race steps " + steps + " law " + random.nextInt(4)
+                + " goal " + (1 + random.nextInt(60)) + " odds " + random.nextInt(11) + ";");
         for (int i = 0; i < 5; i++) {
             text.append("boat at " + random.nextInt(31) + " needs " + (1 + random.nextInt(9)) + ";");
         }
