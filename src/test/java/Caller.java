@@ -1,6 +1,8 @@
 import java.lang.reflect.InvocationTargetException;
 import java.lang.reflect.Method;
 import java.lang.reflect.Modifier;
+import java.util.ArrayList;
+import java.util.List;
 import java.util.Map;
 import java.util.TreeMap;
 
@@ -61,6 +63,34 @@ final class Caller {
         due("row " + slot + " 0 " + numbers.length + " = 0");
         for (int i = 0; i < numbers.length; i++) {
             due("write " + slot + " " + i + " " + numbers[i] + " = 0");
+        }
+    }
+
+    /** What can be seen of the object, in some 300 calls: two objects that answer alike are in one state. */
+    List<Long> state() {
+        List<Long> state = new ArrayList<>();
+        see(state, "fault ", 2);
+        see(state, "count ", 11);
+        long steps = ask("count 0");
+        for (int b = 0; b < ask("count 4"); b++) {
+            see(state, "boat " + b + " ", 2);
+            see(state, "place " + b + " ", steps + 1);
+        }
+        for (int w = 0; w < ask("count 5"); w++) {
+            see(state, "watcher " + w + " ", 4);
+            see(state, "on " + w + " ", steps + 1);
+        }
+        for (int s = 0; s < ask("count 6"); s++) {
+            see(state, "show " + s + " ", 2);
+        }
+        see(state, "awake ", steps);
+        see(state, "fits ", 4);
+        return state;
+    }
+
+    private void see(List<Long> state, String call, long n) {
+        for (int i = 0; i < n; i++) {
+            state.add(ask(call + i));
         }
     }
 
