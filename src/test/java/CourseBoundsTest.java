@@ -205,8 +205,8 @@ public final class CourseBoundsTest {
             }
         }
         Caller two = Caller.of("two shows at a STEP", race + "watcher eyes 4 sees 0 to 0 on 0;"
-                + "watcher eyes 7 sees 0 to 0 on 0; watcher eyes 8 sees 0 to 0 on 0; show 7 at 0; show 3 at 0; show 4 at 1;"
-                + "show 4 at 1; show 8 at 2;");
+                + "watcher eyes 7 sees 0 to 0 on 0; watcher eyes 8 sees 0 to 0 on 0; show 7 at 0; show 3 at 0;"
+                + "show 4 at 1; show 4 at 1; show 8 at 2;");
         two.due("awake 0..2 = 4 6 0", "eyes 0 0..2 = 8 15 0");
     }
 
@@ -250,7 +250,8 @@ public final class CourseBoundsTest {
         Caller x = Caller.of("LAW 1", lawRace(1,
                 "boat at 9 needs 1; boat at 4 needs 9; boat at 5 needs 1; boat at 5 needs 9;"
                 + "boat at 8 needs 9;", "watcher eyes 1 sees 1 to 3 on 1; watcher eyes 1 sees 2 to 4 on 3;"
-                + "watcher eyes 1 sees 3 to 3 on 3; watcher eyes 1 sees 0 to 4 on 4; watcher eyes 1 sees 1 to 2 on 1;"));
+                + "watcher eyes 1 sees 3 to 3 on 3; watcher eyes 1 sees 0 to 4 on 4;"
+                + "watcher eyes 1 sees 1 to 2 on 1;"));
         x.due("on 0 0..1 = 1 2", "on 1 0..1 = 3 4", "on 2 0..3 = 3", "on 3 0..1 = 4 0", "on 4 0..1 = 1 2");
         Caller then = Caller.of("LAW 1, then", lawRace(1, "boat at 4 needs 9; boat at 3 needs 1; boat at 3 needs 1;",
                 "watcher eyes 2 sees 1 to 1 on 1; watcher eyes 1 sees 0 to 2 on 0;"));
@@ -266,7 +267,8 @@ public final class CourseBoundsTest {
         Caller x = Caller.of("LAW 2", lawRace(2,
                 "boat at 1 needs 9; boat at 4 needs 9; boat at 3 needs 9; boat at 3 needs 9;"
                 + "boat at 2 needs 9;", "watcher eyes 1 sees 1 to 3 on 1; watcher eyes 1 sees 2 to 4 on 3;"
-                + "watcher eyes 1 sees 3 to 3 on 3; watcher eyes 1 sees 0 to 4 on 4; watcher eyes 1 sees 1 to 2 on 1;"));
+                + "watcher eyes 1 sees 3 to 3 on 3; watcher eyes 1 sees 0 to 4 on 4;"
+                + "watcher eyes 1 sees 1 to 2 on 1;"));
         x.due("on 0 0..1 = 1 2", "on 1 0..1 = 3 4", "on 2 0..3 = 3", "on 3 0..1 = 4 0", "on 4 0..1 = 1 2");
         Caller then = Caller.of("LAW 2, then", lawRace(2, "boat at 4 needs 9; boat at 3 needs 1; boat at 4 needs 1;",
                 "watcher eyes 2 sees 1 to 1 on 1; watcher eyes 1 sees 0 to 2 on 1;"));

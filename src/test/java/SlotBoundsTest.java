@@ -286,7 +286,8 @@ public final class SlotBoundsTest {
     private static void seenIsAskedLast() {
         Caller x = Caller.of("asked last", TWO);
         x.due("row 1 0 1 = 0", "row 2 0 3 = 0", "write 2 0 9 = 0", "fits 0..3 = -6 -2 -2 -6",
-                "may 0..3 0 = -6 -2 -2 -6", "may 0..3 1 = -2", "ask 0..3 = -6 -2 -2 -6", "leaves 0..3 = -6 -2 -2 -6", "laws 0..3 = -6 -2 -2 -6");
+                "may 0..3 0 = -6 -2 -2 -6", "may 0..3 1 = -2", "ask 0..3 = -6 -2 -2 -6",
+                "leaves 0..3 = -6 -2 -2 -6", "laws 0..3 = -6 -2 -2 -6");
         x.row(2, 0, 2, 2);
         x.due("fits 2 = 1");
         x.feed(TWO.replace("steps 2", "steps 1"));
