@@ -34,6 +34,7 @@ public final class ActBoundsTest {
         imageKeepsRaceAndActs();
         imageStaysAsItWas();
         backKeepsAllElse();
+        callsAtMost();
         Check.finish("ActBoundsTest");
     }
 
@@ -260,7 +261,8 @@ public final class ActBoundsTest {
         x.due("image 1 = 0", "back 1 = 0", "wins = -2", "back 0 = -6", "back 2 = -6", "count 0..10 = 0");
         x.feed(TWO);
         x.due("race = 6", "image 0 = 0", "look 0 1 0 = 0", "back 1 = 0", "wins = -2", "count 0..10 = 0",
-                "place 0 0 = -2", "undo = -2", "can = -2", "back 0 = 0", "wins = -1", "count 7..8 = 0 6", "place 0 0..3 = 0 2 2 4");
+                "place 0 0 = -2", "undo = -2", "can = -2", "back 0 = 0", "wins = -1",
+                "count 7..8 = 0 6", "place 0 0..3 = 0 2 2 4");
     }
 
     /** 71, 72: "It is as IMAGE k has it": needs changed and thirty acts, too. */
@@ -303,5 +305,18 @@ public final class ActBoundsTest {
         x.due("race = -4", "feed 0 0 0 0 0 = 20", "back 0 = 0", "fault 0..1 = 2 11", "count 9..10 = 20 1", "fits 0 = 4",
                 "write 0 2 1 = 0", "fits 0 = 0", "back 0 = 0", "fits 0 = 0", "end 0 = 0", "race = 0", "fits 0 = -2",
                 "back 0 = 0", "fits 0 = 0", "fault 0..1 = 0 -1", "write 0 2 0 = 0", "fits 0 = 4");
+    }
+
+    /** "An object is used for at most 512 calls": the last of them answers as the first. */
+    private static void callsAtMost() {
+        Caller x = Caller.of("512 calls", TWO);
+        while (x.callsMade() < 509) {
+            x.due("look 0 1 0 = 0", "undo = 0");
+        }
+        while (x.callsMade() < 511) {
+            x.due("on 0 3 = 0");
+        }
+        x.due("place 0 3 = 4");
+        Check.due("calls made", x.callsMade(), 512);
     }
 }

@@ -27,6 +27,11 @@ public final class ArgumentBoundsTest {
 
     public static void main(String[] args) {
         everyCallIsHere();
+        withoutARace(new Caller("a new object"));
+        withoutARace(new Caller("a new object, again"));
+        Caller gone = new Size(5, 5, 5, 20).caller("a RACE in place of which there is none");
+        gone.due("look 0 0 0 = 0", "row 0..3 0 0 = 0", "race = 0");
+        withoutARace(gone);
         for (Size size : new Size[] {new Size(5, 5, 5, 20), new Size(5, 4, 3, 9), new Size(4, 5, 2, 8),
             new Size(3, 2, 4, 7), new Size(2, 3, 1, 2), new Size(1, 1, 1, 1), new Size(1, 5, 0, 6)}) {
             for (String call : CALLS) {
@@ -46,6 +51,24 @@ public final class ArgumentBoundsTest {
             Check.holds(name + " has its bounds tested", here.remove(name));
         }
         Check.holds("no call besides: " + here, here.isEmpty());
+    }
+
+    /** 1: "No RACE." and 4: "(0: there is none then)": what asks for one is refused, whatever the arguments. */
+    private static void withoutARace(Caller x) {
+        for (String name : WITHOUT_ARGUMENTS.split(" ")) {
+            x.due(name + " = " + (name.equals("race") ? 0 : -2));
+        }
+        for (String call : CALLS) {
+            String[] kinds = call.split(" ");
+            String asked = kinds[0];
+            for (int i = 1; i < kinds.length; i++) {
+                asked += kinds[i].equals("N") || kinds[i].equals("R") ? " 1" : " 0";
+            }
+            if (!kinds[kinds.length - 1].equals("M")) {
+                x.due(asked + " = " + (kinds[0].equals("gap") ? -1000 : -2));
+            }
+        }
+        x.due("count 0..8 = 0");
     }
 
     /** The ends of what is taken, the first beyond them, and the ends of all numbers. */

@@ -40,6 +40,7 @@ public final class CourseBoundsTest {
         gazes();
         lacks();
         faithfuls();
+        shortBehindLong();
         Check.finish("CourseBoundsTest");
     }
 
@@ -343,6 +344,9 @@ public final class CourseBoundsTest {
                 + "watcher eyes 2 sees 0 to 1 on 1;");
         // 1 1 3 3 5, 0 2 2 4 4
         y.due("passes 0 1 = 2", "passes 1 0 = 1");
+        Caller ahead = Caller.of("farther from STEP 0 on", "race steps 2 law 0 goal 60 odds 0; boat at 2 needs 1;"
+                + "boat at 1 needs 1; watcher eyes 2 sees 0 to 0 on 0; watcher eyes 1 sees 1 to 1 on 1;");
+        ahead.due("place 0 0..2 = 2 4 6", "place 1 0..2 = 1 2 3", "passes 0..1 0 = -1", "passes 0..1 1 = -1");
         Caller z = Caller.of("passes at the last STEP", "race steps 2 law 0 goal 60 odds 0; boat at 0 needs 1;"
                 + "boat at 1 needs 1; watcher eyes 1 sees 0 to 0 on 0;");
         z.due("place 0 0..2 = 0 1 2", "passes 0 1 = 2", "passes 1 0 = -1");
@@ -359,8 +363,26 @@ public final class CourseBoundsTest {
         y.due("even 0 1 = 1", "order 0..1 0 = 1 0", "order 0..1 1 = 0 1");
     }
 
+    /** 4: "in place of another": nothing of a longer RACE is left in a shorter one. */
+    private static void shortBehindLong() {
+        String text = "race steps 2 law 0 goal 60 odds 0; boat at 0 needs 9; boat at 1 needs 1;"
+                + "watcher eyes 1 sees 0 to 1 on 0;";
+        Caller x = Caller.of("short behind long", FULL.replace("law 0", "law 3"));
+        x.due("sneeze 0 2 = 1", "look 1 4 2 = 3");
+        x.ask("total 0");
+        x.ask("ways 0");
+        x.feed(text);
+        x.due("race = 4", "total 0..1 = 2 0", "calm 0..1 = 3", "front 0..1 = 0 3", "even 0 1 = 0", "wavers 0 = 0",
+                "on 0 0..3 = 0 0 0 -2", "far 0..1 = 0 3", "awake 0..2 = 1 1 -2", "arrived 2 = 0", "gaze 0 = 0");
+        Check.holds("short behind long is as if alone",
+                x.state().equals(Caller.of("short alone", text).state()));
+    }
+
     /** 29: "at most STEPS (0 to the last), the first of several"; 24: "at how many STEPS". */
     private static void gazes() {
+        Caller each = Caller.of("gaze, one STEP each", "race steps 1 law 3 goal 60 odds 0; boat at 0 needs 1;"
+                + "boat at 0 needs 1; boat at 0 needs 1; watcher eyes 1 sees 0 to 2 on 1;");
+        each.due("on 0 0..1 = 1 2", "gaze 0 = 1", "look 0 0 1 = 2", "gaze 0 = 0");
         String race = "race steps 3 law 0 goal 60 odds 0;" + "boat at 0 needs 1;".repeat(3)
                 + "watcher eyes 1 sees 0 to 2 on 2;";
         Caller x = Caller.of("gaze", race);

@@ -90,6 +90,8 @@ public final class WhatIfBoundsTest {
                     + ON_FIRST);
             y.due("start 0 = " + (goal <= 33 ? goal - 3 : -1), "boat 0 0 = 0");
         }
+        Caller.of("start of 0, more than enough", "race steps 1 law 0 goal 1 odds 0; boat at 30 needs 2;" + ON_FIRST)
+                .due("start 0 = 0");
         Caller.of("start of 0", "race steps 1 law 0 goal 1 odds 0; boat at 30 needs 6;" + ON_FIRST).due("start 0 = 0");
         Caller x = Caller.of("start against others", RACE + "boat at 3 needs 6; boat at 3 needs 6;" + ON_FIRST
                 + ON_SECOND);
