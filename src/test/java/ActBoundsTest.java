@@ -32,6 +32,7 @@ public final class ActBoundsTest {
         imagesThereAre();
         imageOfNoRace();
         imageKeepsRaceAndActs();
+        imageKeepsActs();
         imageStaysAsItWas();
         backKeepsAllElse();
         callsAtMost();
@@ -282,6 +283,19 @@ public final class ActBoundsTest {
                 "show 0 0..1 = 1 1", "back 1 = 0", "count 0..8 = 20 3 7 9 5 5 5 0 16", "watcher 4 0..3 = 9 0 4 4",
                 "show 4 0..1 = 9 19", "place 4 1 = 3", "can = 31", "far 0..4 = 7", "back 0 = 0", "can = 0",
                 "far 0..1 = 4");
+    }
+
+    /** 71: "and acts": of each its WATCHER, BOAT and STEP, where others have been given since. */
+    private static void imageKeepsActs() {
+        Caller x = Caller.of("image keeps acts", TWO);
+        x.due("look 0 1 0 = 0", "look 1 1 2 = 0", "sneeze 0 2 = 1", "sneeze 1 0 = 1");
+        List<Long> kept = x.state();
+        x.due("image 1 = 0", "anew = 4", "sneeze 1 2 = 1", "look 0 1 1 = 0", "look 1 1 3 = 0", "look 1 0 0 = 0",
+                "image 2 = 0", "back 1 = 0");
+        Check.holds("image keeps acts, each of them", x.state().equals(kept));
+        x.due("on 0 0..3 = 1", "on 1 0..3 = 0 0 1 1", "awake 0..2 = 1 0 2", "undo = 3", "awake 0 = 3", "undo = 2",
+                "awake 2 = 3", "undo = 1", "on 1 0..3 = 0", "undo = 0", "on 0 0..3 = 0", "back 2 = 0",
+                "on 0 0..3 = 0 1 1 1", "on 1 0..3 = 0 0 0 1", "awake 0..2 = 3 0 1");
     }
 
     /** 71: what comes later does not change an IMAGE; a later image() in its place does. */

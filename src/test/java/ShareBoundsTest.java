@@ -203,6 +203,9 @@ public final class ShareBoundsTest {
         Caller x = Caller.of("game without rest", "race steps 2 law 2 goal 5 odds 0; boat at 2 needs 2;"
                 + "boat at 3 needs 3; watcher eyes 2 sees 0 to 1 on 0; watcher eyes 2 sees 0 to 1 on 1;");
         x.due("rests 0 1 = 0", "rest 0 1 = -1", "rests 1 0 = 0", "rest 1 0 = -1");
+        // None is none also behind a pair that was asked for ahead of it.
+        x.due("sneeze 0 0 = 1", "sneeze 1 0 = 1", "sneeze 0 1 = 1", "sneeze 1 1 = 1", "rests 0 1 = 4", "rest 0 1 = 0",
+                "anew = 4", "rest 0 1 = -1", "rests 0 1 = 0", "rest 1 0 = -1");
     }
 
     /** 60: "10 times the first one's BOAT and the other one's". */

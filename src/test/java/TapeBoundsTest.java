@@ -1,3 +1,6 @@
+import java.util.ArrayList;
+import java.util.List;
+
 /** The bounds of the TAPE and of the texts on it (term I, promises 1 to 5), sentence by sentence. */
 public final class TapeBoundsTest {
     private static final String RACE = "race steps 1 law 0 goal 1 odds 0;";
@@ -386,9 +389,14 @@ public final class TapeBoundsTest {
         }
         String less = token.substring(0, token.length() - 1);
         char last = token.endsWith("a") ? 'b' : 'a';
-        return new String[] {less, less + last, token + "a", token + token, "a" + token, "zz", "7", "99", ";", "@",
-            token.toUpperCase(), token.substring(0, 1).toUpperCase() + token.substring(1),
-            less + token.substring(token.length() - 1).toUpperCase(), "race"};
+        List<String> others = new ArrayList<>(List.of(less, less + last, token + "a", token + token, "a" + token,
+                token.substring(1), "zz", "7", "99", ";", "@", token.toUpperCase(),
+                token.substring(0, 1).toUpperCase() + token.substring(1),
+                less + token.substring(token.length() - 1).toUpperCase(), "race"));
+        for (int i = 0; i < token.length(); i++) {
+            others.add(token.substring(0, i) + "q" + token.substring(i + 1));
+        }
+        return others.toArray(new String[0]);
     }
 
     /** I: "race is the first LINE and no other" and "(race behind the first LINE, another word ahead of it)". */

@@ -15,6 +15,7 @@ public final class WhatIfBoundsTest {
         by();
         looksAreOfThoseSeen();
         looksAtMost();
+        looksAskedFirst();
         looksActsAsNow();
         plan();
         fewest();
@@ -146,6 +147,23 @@ public final class WhatIfBoundsTest {
         Caller one = Caller.of("looks at least", "race steps 1 law 0 goal 1 odds 0; boat at 0 needs 1;"
                 + "watcher eyes 1 sees 0 to 0 on 0;");
         one.due("ways 0..1 = 1 -2", "can = 1", "plan 0 0..1 = 0 -2", "fewest 0 = 0", "soonest 0 = 1", "far 0 = 1");
+    }
+
+    /** V: asked first of all, and first behind each change, every one of 43 to 48 tells of the RACE as it is now. */
+    private static void looksAskedFirst() {
+        String text = "race steps 1 law 0 goal 1 odds 0; boat at 0 needs 1; boat at 0 needs 2;"
+                + "watcher eyes 2 sees 0 to 1 on 1;";
+        String[] calls = {"ways 0 = ", "plan 0 0 = ", "fewest 0 = ", "soonest 0 = ", "far 0 = ", "can = "};
+        int[] asTold = {1, 0, 1, 1, 1, 3};
+        int[] withAct = {0, -1, -1, -1, 0, 2};
+        for (int i = 0; i < calls.length; i++) {
+            Caller x = Caller.of("asked first", text);
+            x.due(calls[i] + asTold[i], "look 0 1 0 = 1", calls[i] + withAct[i], "image 0 = 0", "undo = 0",
+                    calls[i] + asTold[i], "back 0 = 0", calls[i] + withAct[i], "anew = 1", calls[i] + asTold[i],
+                    "sneeze 0 0 = 1", calls[i] + (i == 5 ? 0 : withAct[i]));
+            x.feed(text);
+            x.due("race = 4", calls[i] + asTold[i], "rate 0 3 = 1", calls[i] + withAct[i]);
+        }
     }
 
     /** V: "(acts as now)". */
