@@ -21,6 +21,7 @@ public final class CourseBoundsTest {
         fullWatchers();
         noBoats();
         noWatchers();
+        moreOfOneKind();
         showsBeyondTheLastStep();
         startsAtGoalAtMost();
         eyesByNeedsCut();
@@ -131,6 +132,22 @@ public final class CourseBoundsTest {
                 "even 0 1 = 3", "watcher 0 0 = -2");
     }
 
+    /** I: as many of a kind as are told, however many there are of the others. */
+    private static void moreOfOneKind() {
+        Caller boats = Caller.of("more BOATS", "race steps 20 law 0 goal 60 odds 0; boat at 4 needs 9;"
+                + "boat at 3 needs 9; boat at 2 needs 9; boat at 1 needs 9; boat at 0 needs 9;"
+                + "watcher eyes 1 sees 0 to 0 on 0;");
+        boats.due("behind 0..5 20 = 0 1 2 3 4 -2", "order 0..5 20 = 0 1 2 3 4 -2", "lags 20 = 4", "fleet 20 = 10",
+                "unseen 20 = 30", "calm 4 = 1048575", "even 3 4 = 0", "arrived 20 = 0", "watcher 1 0 = -2");
+        Caller watchers = Caller.of("more WATCHERS", "race steps 3 law 0 goal 60 odds 0;"
+                + "boat at 0 needs 5;".repeat(2) + "watcher eyes 1 sees 0 to 1 on 1;".repeat(5));
+        watchers.due("on 0..5 3 = 1 1 1 1 1 -2", "place 1 0..3 = 0 1 2 3", "lookers 0..2 3 = 0 31 -2", "awake 2 = 31",
+                "faithful = 31", "seers 0..1 = 31", "boat 2 0 = -2");
+        Caller shows = Caller.of("more SHOWS", "race steps 1 law 0 goal 60 odds 0; boat at 0 needs 1;"
+                + "watcher eyes 5 sees 0 to 0 on 0; show 1 at 0; show 1 at 0; show 1 at 0; show 1 at 0; show 5 at 0;");
+        shows.due("awake 0 = 0", "show 4 0 = 5", "clear 4 = -1", "boat 1 0 = -2", "watcher 1 0 = -2");
+    }
+
     /** I: a SHOW is at 0 .. 19, also where the RACE has fewer STEPS. */
     private static void showsBeyondTheLastStep() {
         String race = "race steps 2 law 0 goal 9 odds 0; boat at 0 needs 1; watcher eyes 1 sees 0 to 0 on 0;";
@@ -225,6 +242,10 @@ public final class CourseBoundsTest {
                 "at 0")
                 + "watcher eyes 3 sees 0 to 0 on 0; show 3 at 3;");
         z.due("calm 0..2 = 8 0 0", "drops = 3", "calmest = 0");
+        Caller since = Caller.of("not becalmed since it is at goal", "race steps 3 law 0 goal 2 odds 0;"
+                + "boat at 0 needs 1; watcher eyes 2 sees 0 to 0 on 0; show 2 at 1; show 2 at 2;");
+        since.due("place 0 0..3 = 0 2 2 2", "eyes 0 0..2 = 2 0 0", "calm 0 = 0", "drops = -1", "calmest = -1",
+                "rate 0 2 = 1", "calm 0 = 6", "drops = 1", "calmest = 0");
         Caller none = Caller.of("becalmed at none", race.replace("boat at 0", "boat at 4")
                 + "watcher eyes 2 sees 0 to 0 on 0;");
         none.due("calm 0..2 = 0", "drops = -1", "calmest = -1");
@@ -350,6 +371,9 @@ public final class CourseBoundsTest {
         Caller z = Caller.of("passes at the last STEP", "race steps 2 law 0 goal 60 odds 0; boat at 0 needs 1;"
                 + "boat at 1 needs 1; watcher eyes 1 sees 0 to 0 on 0;");
         z.due("place 0 0..2 = 0 1 2", "passes 0 1 = 2", "passes 1 0 = -1");
+        Caller late = Caller.of("passes at the last of twenty STEPS", "race steps 20 law 0 goal 60 odds 0;"
+                + "boat at 0 needs 1; boat at 19 needs 9; watcher eyes 1 sees 0 to 0 on 0;");
+        late.due("passes 0 1 = 20", "passes 1 0 = -1", "even 0 1 = 1", "leads 18..20 = 1 0 0", "changes = 1");
     }
 
     /** 34: "two BOATS (or one twice)"; 33: "of one place the less by number". */

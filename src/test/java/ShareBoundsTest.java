@@ -20,6 +20,7 @@ public final class ShareBoundsTest {
         gameOfOneRest();
         gameWithoutRest();
         gamesTwoWays();
+        gamesOfThoseSeen();
         gameWithOthersAsTold();
         gameAsNow();
         Check.finish("ShareBoundsTest");
@@ -214,6 +215,20 @@ public final class ShareBoundsTest {
                 + "watcher eyes 1 sees 2 to 3 on 3; watcher eyes 1 sees 4 to 4 on 4; watcher eyes 1 sees 4 to 4 on 4;");
         x.due("rest 0 1 = 2", "rest 1 0 = 20", "rest 0 2 = 4", "rest 2 0 = 40", "rest 1 2 = 24", "rest 2 1 = 42",
                 "rest 2 3 = 44", "rest 3 2 = 44", "rests 0 1 = 4", "rests 1 2 = 2", "rests 2 3 = 1");
+    }
+
+    /** VIII: "Each .. LOOKS at any BOAT that she sees", and no other; "at the last STEP", of twenty. */
+    private static void gamesOfThoseSeen() {
+        String race = RACE.replace("steps 1 ", "steps 20 ");
+        Caller x = Caller.of("games of those seen", race + BOAT.repeat(3) + "watcher eyes 1 sees 0 to 1 on 0;"
+                + "watcher eyes 1 sees 1 to 2 on 2;");
+        x.due("rests 0 1 = 1", "rest 0 1 = 2", "rests 1 0 = 1", "rest 1 0 = 20");
+        Caller y = Caller.of("games of those seen, the other way", race + BOAT.repeat(3)
+                + "watcher eyes 1 sees 1 to 2 on 2;" + "watcher eyes 1 sees 0 to 1 on 0;");
+        y.due("rests 0 1 = 1", "rest 0 1 = 20", "rests 1 0 = 1", "rest 1 0 = 2");
+        Caller one = Caller.of("games of one seen and five", race + BOAT.repeat(5)
+                + "watcher eyes 1 sees 2 to 2 on 2;" + "watcher eyes 1 sees 0 to 4 on 3;");
+        one.due("rests 0 1 = 1", "rest 0 1 = 23", "rests 1 0 = 1", "rest 1 0 = 32");
     }
 
     /** VIII: "in place of the one told": all others LOOK at those told for them. */

@@ -392,6 +392,13 @@ public final class SlotBoundsTest {
 
     /** 57: "LAWS (0 .. 3) by which it is so, WATCHERS LOOKING as told, as bits." */
     private static void lawsAsTold() {
+        // By LAWS 0 and 1 she stays at BOAT 0, by 2 and 3 she turns at each STEP.
+        Caller last = Caller.of("laws at the last of twenty STEPS", TWO.replace("steps 2", "steps 20"));
+        last.row(0, 0, 20, 20);
+        last.row(1, 0, 20, 10);
+        last.row(2, 1, 20, 10, 0, 19, 10);
+        last.row(3, 1, 20, 0);
+        last.due("laws 0..3 = 3 12 12 3", "fits 0..3 = 1 0 0 1");
         // By LAW 0 she stays at 1, by 1 and 3 she turns to 2 (the last she sees), by 2 to 0.
         String race = "race steps 2 law # goal 60 odds 0; boat at 0 needs 1; boat at 0 needs 1; boat at 5 needs 1;"
                 + "watcher eyes 1 sees 0 to 2 on 1;";

@@ -197,6 +197,12 @@ public final class WhatIfBoundsTest {
         }
         Caller.of("fewest, as told", RACE + "boat at 0 needs 3; boat at 0 needs 3;" + ON_FIRST + ON_SECOND)
                 .due("fewest 0..1 = 0 -1");
+        Caller five = Caller.of("none of five", RACE.replace("goal 4", "goal 60") + "boat at 0 needs 1;".repeat(5)
+                + "watcher eyes 1 sees 0 to 4 on 0;".repeat(5));
+        for (int b = 0; b < 5; b++) {
+            five.due("plan " + b + " 0..4 = -1", "fewest " + b + " = -1", "ways " + b + " = 0",
+                    "soonest " + b + " = -1");
+        }
     }
 
     /** 46: "The earliest STEP at which a BOAT is at goal by any LOOKS" (also where it does not WIN). */
@@ -209,6 +215,10 @@ public final class WhatIfBoundsTest {
                 "race steps 20 law 0 goal 20 odds 0; boat at 0 needs 1;"
                 + "watcher eyes 1 sees 0 to 0 on 0;");
         last.due("soonest 0 = 20", "far 0 = 20");
+        // By the first LOOKS BOAT 1 is at goal one STEP later than by the others.
+        Caller later = Caller.of("soonest by later LOOKS", "race steps 3 law 3 goal 1 odds 0; boat at 0 needs 1;"
+                + "boat at 0 needs 1; watcher eyes 1 sees 0 to 1 on 0;");
+        later.due("home 0..1 = 1 2", "soonest 0..1 = 1 1", "ways 0..1 = 1 1", "plan 1 0 = 1");
     }
 
     /** 47: "How far a BOAT is at the last STEP at most, by any LOOKS." */
@@ -254,6 +264,9 @@ public final class WhatIfBoundsTest {
                 "race steps 2 law 0 goal 3 odds 0; boat at 0 needs 9; boat at 2 needs 1;"
                 + "watcher eyes 9 sees 1 to 1 on 1;");
         first.due("wins = 1", "spoils = 0", "home 1 = 1");
+        Caller far = Caller.of("STEPS beyond goal", "race steps 5 law 0 goal 2 odds 0; boat at 0 needs 9;"
+                + "watcher eyes 9 sees 0 to 0 on 0; show 9 at 0; show 9 at 1; show 9 at 2;");
+        far.due("home 0 = 5", "spoils = 24", "lure 0..5 = -1 -1 -1 9 9 -2");
         Caller late = Caller.of("one STEP of three",
                 "race steps 2 law 0 goal 3 odds 0; boat at 2 needs 1; boat at 1 needs 1;"
                 + "watcher eyes 3 sees 1 to 1 on 1; watcher eyes 1 sees 0 to 0 on 0; show 1 at 0;");
